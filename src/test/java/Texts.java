@@ -15,7 +15,7 @@ final class Texts {
     }
 
     String sound(int mostPosts, int mostLinks, int mostWays) {
-        return join(lines(mostPosts, mostLinks, mostWays));
+        return join(lines(mostPosts, mostLinks, mostWays), 0);
     }
 
     String broken(int mostPosts, int mostLinks, int mostWays) {
@@ -24,7 +24,7 @@ final class Texts {
         for (int i = 0; i < times; i++) {
             breakOne(tokens);
         }
-        return join(tokens);
+        return join(tokens, random.nextInt(4) == 0 ? 40 : 0);
     }
 
     private void breakOne(List<String> tokens) {
@@ -57,7 +57,7 @@ final class Texts {
 
     private List<String> lines(int mostPosts, int mostLinks, int mostWays) {
         List<List<String>> lines = new ArrayList<>();
-        int posts = random.nextInt(mostPosts + 1);
+        int posts = random.nextInt(4) == 0 ? random.nextInt(mostPosts + 1) : mostPosts - random.nextInt(2);
         for (int p = 0; p < posts; p++) {
             lines.add(List.of("post", NAMES[p], ";"));
         }
@@ -72,7 +72,7 @@ final class Texts {
                 lines.add(List.of("link", NAMES[a], NAMES[b], (random.nextInt(9) == 0 ? "0" : "") + (1 + random.nextInt(9)), ";"));
             }
         }
-        int count = random.nextInt(mostWays + 1);
+        int count = random.nextInt(3) == 0 ? random.nextInt(mostWays + 1) : mostWays - random.nextInt(2);
         int ways = 0;
         for (int tries = 0; tries < 40 && ways < count && posts > 1; tries++) {
             List<Integer> row = walk(joined, 2 + random.nextInt(7));
@@ -84,7 +84,7 @@ final class Texts {
                 ways++;
             }
         }
-        int told = random.nextInt(ways + 2);
+        int told = random.nextInt(2 * ways + 2);
         for (int i = 0; i < told && ways > 0; i++) {
             lines.add(List.of(random.nextBoolean() ? "good" : "bad", "w" + (char) ('a' + random.nextInt(ways)), ";"));
         }
@@ -133,15 +133,15 @@ final class Texts {
         return tokens;
     }
 
-    /** Blanks of all four kinds, only where needed or where they please. */
-    private String join(List<String> tokens) {
+    /** Blanks of all four kinds, only where needed or where they please; now and then a needed one is left out. */
+    private String join(List<String> tokens, int leftOut) {
         String blanks = "\t\n\r ";
         boolean isDense = random.nextInt(3) > 0;
         StringBuilder text = new StringBuilder();
         String ahead = ";";
         for (String token : tokens) {
             boolean isNeeded = isWordy(ahead, ahead.length() - 1) && isWordy(token, 0);
-            if (isNeeded && random.nextInt(200) > 0 || !isDense && random.nextInt(3) == 0) {
+            if (isNeeded && random.nextInt(1000) >= leftOut || !isDense && random.nextInt(3) == 0) {
                 text.append(blanks.charAt(random.nextInt(4)));
             }
             text.append(token);
