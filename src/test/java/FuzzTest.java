@@ -25,9 +25,13 @@ final class FuzzTest {
                 CHECKS.promise("small net, seed " + (r * 1000000 + 5000 + i));
                 new FuzzTest(r * 1000000 + 5000 + i).calls(6, 7, 7, 200);
             }
-            for (int i = 0; i < 12; i++) {
+            for (int i = 0; i < 60; i++) {
                 CHECKS.promise("full net, seed " + (r * 1000000 + 9000 + i));
-                new FuzzTest(r * 1000000 + 9000 + i).calls(8, 12, 12, 40);
+                new FuzzTest(r * 1000000 + 9000 + i).calls(4 + i % 5, 12, 12, 80);
+            }
+            for (int i = 0; i < 60; i++) {
+                CHECKS.promise("plans, seed " + (r * 1000000 + 11000 + i));
+                new FuzzTest(r * 1000000 + 11000 + i).plans(4 + i % 5, 3 + i % 10);
             }
         }
         CHECKS.end();
@@ -109,8 +113,19 @@ final class FuzzTest {
                 int slot = random.nextInt(5) - 1;
                 CHECKS.due("restore(" + slot + ")", x.restore(slot), y.restore(slot));
             } else {
-                question(links > 8 ? random.nextInt(28) : random.nextInt(30));
+                question(random.nextInt(30));
             }
+        }
+    }
+
+    private void plans(int posts, int links) {
+        x = new FaultWays();
+        y = new Oracle();
+        read(texts.sound(posts, links, 0));
+        CHECKS.due("count(17)", x.count(17), y.count(17));
+        for (int i = -2; i < 4; i++) {
+            CHECKS.due("plan(0, " + i + ")", x.plan(0, i), y.plan(0, i));
+            CHECKS.due("plan(1, " + i + ")", x.plan(1, i), y.plan(1, i));
         }
     }
 

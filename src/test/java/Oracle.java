@@ -28,7 +28,7 @@ final class Oracle {
     private List<List<Way>> past = new ArrayList<>();
     private Map<Integer, List<Way>> slots = new HashMap<>();
 
-    private record Way(List<Integer> row, int outcome) {
+    private record Way(List<Integer> row, int links, int outcome) {
     }
 
     private record Token(String text, int place) {
@@ -271,7 +271,7 @@ final class Oracle {
                 for (Token t : line.subList(2, line.size() - 1)) {
                     row.add(postOf.get(t.text));
                 }
-                ways.add(new Way(row, outcomeOf.getOrDefault(line.get(1).text, 0)));
+                ways.add(new Way(row, linksOf(row), outcomeOf.getOrDefault(line.get(1).text, 0)));
             }
         }
     }
@@ -287,7 +287,7 @@ final class Oracle {
             return false;
         }
         remember();
-        ways.set(way, new Way(ways.get(way).row, outcome));
+        ways.set(way, new Way(ways.get(way).row, ways.get(way).links, outcome));
         return true;
     }
 
@@ -300,7 +300,7 @@ final class Oracle {
             return NONE;
         }
         remember();
-        ways.add(new Way(all.get(i), 0));
+        ways.add(new Way(all.get(i), linksOf(all.get(i)), 0));
         return ways.size() - 1;
     }
 
@@ -390,7 +390,7 @@ final class Oracle {
             return NONE;
         }
         Way w = ways.get(way);
-        return what == 0 ? w.outcome : what == 1 ? linksOf(w.row) : what == 2 ? w.row.size() : NONE;
+        return what == 0 ? w.outcome : what == 1 ? w.links : what == 2 ? w.row.size() : NONE;
     }
 
     int post(int way, int i) {
@@ -405,7 +405,7 @@ final class Oracle {
 
     private boolean explains(int set, int[] outcomes) {
         for (int w = 0; w < ways.size(); w++) {
-            boolean hit = (linksOf(ways.get(w).row) & set) != 0;
+            boolean hit = (ways.get(w).links & set) != 0;
             if (outcomes[w] == 1 && hit || outcomes[w] == 2 && !hit) {
                 return false;
             }
@@ -448,7 +448,7 @@ final class Oracle {
 
     private boolean isCleared(int link) {
         for (Way w : ways) {
-            if (w.outcome == 1 && has(linksOf(w.row), link)) {
+            if (w.outcome == 1 && has(w.links, link)) {
                 return true;
             }
         }
@@ -523,7 +523,7 @@ final class Oracle {
     private int contradicted(int set) {
         int bits = 0;
         for (int w = 0; w < ways.size(); w++) {
-            int given = (linksOf(ways.get(w).row) & set) != 0 ? 2 : 1;
+            int given = (ways.get(w).links & set) != 0 ? 2 : 1;
             if (ways.get(w).outcome != 0 && ways.get(w).outcome != given) {
                 bits |= 1 << w;
             }
@@ -642,7 +642,7 @@ final class Oracle {
         }
         int bits = 0;
         for (int w = 0; w < ways.size(); w++) {
-            bits |= (linksOf(ways.get(w).row) & set) != 0 ? 1 << w : 0;
+            bits |= (ways.get(w).links & set) != 0 ? 1 << w : 0;
         }
         return bits;
     }
@@ -650,7 +650,7 @@ final class Oracle {
     private int seen() {
         int bits = 0;
         for (Way w : ways) {
-            bits |= linksOf(w.row);
+            bits |= w.links;
         }
         return bits;
     }
@@ -955,7 +955,7 @@ final class Oracle {
             }
             int[] outcomes = new int[ways.size()];
             for (int w = 0; w < ways.size(); w++) {
-                outcomes[w] = (linksOf(ways.get(w).row) & drawn) != 0 ? 2 : 1;
+                outcomes[w] = (ways.get(w).links & drawn) != 0 ? 2 : 1;
             }
             List<Integer> lean = leanSets(outcomes);
             sum += switch (what) {

@@ -12,6 +12,13 @@ final class PromiseTest {
     /** A row of posts a .. e: links 0 ab, 1 bc, 2 cd, 3 de. */
     private static final String CHAIN = "post a;post b;post c;post d;post e;link a b 1;link b c 1;link c d 1;link d e 1;";
 
+    /** Twelve links: 0 ab, 1 ac, 2 ad, 3 ae, 4 af, 5 ag, 6 bc, 7 bd, 8 be, 9 bf, 10 bg, 11 gh. */
+    private static final String TWELVE = "post a;post b;post c;post d;post e;post f;post g;post h;link a b 9;link a c 9;link a d 9;link a e 9;"
+        + "link a f 9;link a g 9;link b c 9;link b d 9;link b e 9;link b f 9;link b g 9;link h g 9;";
+    /** A way for each of the twelve links alone. */
+    private static final String ALONE = TWELVE + "way k a b;way l a c;way m a d;way n a e;way o a f;way p a g;way q b c;way r b d;"
+        + "way s b e;way t b f;way u b g;way v h g;";
+
     private static final Checks CHECKS = new Checks();
 
     public static void main(String[] args) {
@@ -492,6 +499,11 @@ final class PromiseTest {
         FaultWays y = Checks.of(NET);
         due("lean", y.lean(NONE), 1);
         dueRow("lean", y::lean, 0);
+        FaultWays z = Checks.of(ALONE);
+        for (int way = 0; way < 12; way++) {
+            z.tell(way, 2);
+        }
+        dueRow("all twelve", z::lean, 4095);
     }
 
     private static void explains() {
@@ -539,9 +551,7 @@ final class PromiseTest {
         x.lay(0, 1, 0);
         x.tell(1, 2);
         due("nothing explains", x.weight(NONE), 0);
-        String twelve = "post a;post b;post c;post d;post e;post f;post g;post h;link a b 9;link a c 9;link a d 9;link a e 9;"
-            + "link a f 9;link a g 9;link b c 9;link b d 9;link b e 9;link b f 9;link b g 9;link h g 9;";
-        FaultWays y = Checks.of(twelve);
+        FaultWays y = Checks.of(TWELVE);
         due("all of twelve", y.weight(NONE), 1000000000000L);
         due("of one of twelve", y.weight(11), 900000000000L);
         due("likeliest of twelve", y.likeliest(), 4095);
@@ -617,6 +627,7 @@ final class PromiseTest {
         // 0 {p q}, 1 {q r}, 2 {r p}: pairs are all alike, and as all three
         FaultWays x = Checks.of("post a;post b;post c;link a b 1;link b c 1;link a c 1;way p b a c;way q a b c;way r b c a;");
         due("pairs alike", x.level(), 1);
+        due("all twelve", Checks.of(ALONE).level(), 12);
     }
 
     private static void twin() {
@@ -652,6 +663,9 @@ final class PromiseTest {
         dueRow("twins need not be told apart", i -> y.choice(1, i), 0, 1);
         dueRow("one is enough", i -> y.choice(0, i), 0);
         due("nothing seen", Checks.of(CHAIN).choice(1, NONE), 0);
+        FaultWays z = Checks.of(ALONE);
+        dueRow("all twelve", i -> z.choice(0, i), 0, 1, 2, 3, 4, 5, 6, 7, 8, 9, 10, 11);
+        dueRow("all twelve", i -> z.choice(1, i), 0, 1, 2, 3, 4, 5, 6, 7, 8, 9, 10, 11);
     }
 
     private static void after() {
@@ -713,6 +727,14 @@ final class PromiseTest {
         FaultWays z = Checks.of(CHAIN + "way p a b;way q b c;way r c d;way s d e;");
         due("one by one", z.tries(false), 4);
         due("first", z.tries(true), 0);
+        FaultWays u = Checks.of(ALONE);
+        due("twelve one by one, or none", u.tries(false), 12);
+        due("first", u.tries(true), 0);
+        for (int way = 0; way < 11; way++) {
+            u.tell(way, 1);
+        }
+        due("the last", u.tries(false), 1);
+        due("first", u.tries(true), 11);
     }
 
     private static void plan() {
@@ -740,6 +762,8 @@ final class PromiseTest {
         due("how many", u.plan(0, NONE), 3);
         dueRow("which", i -> u.plan(0, i), 0, 3, 4);
         due("seven at most can be told, six are here", u.plan(1, NONE), -2);
+        FaultWays v = Checks.of(TWELVE + "eye a;eye b;eye c;eye h;");
+        due("more than seven links to be told", v.plan(1, NONE), -2);
         due("whatever i is", u.plan(1, 7), -2);
         due("whatever i is", u.plan(1, -5), -2);
         due("but not what", u.plan(2, 0), NONE);
@@ -790,6 +814,11 @@ final class PromiseTest {
         due("nothing is told", x.count(7) | x.count(8), 0);
         x.tell(0, 1);
         guessesOf(x);
+        FaultWays y = Checks.of(ALONE + "seed 14;");
+        for (int what = 0; what < 3; what++) {
+            due("each is alone on a way", y.guess(10, what), 10);
+        }
+        due("all are sure: 116 of 120 failed", y.guess(10, 3), 116);
         due("guess(10, 3) of nothing", new FaultWays().guess(10, 3), 0);
         due("guess(10, 0) of nothing", new FaultWays().guess(10, 0), 10);
     }
@@ -818,6 +847,9 @@ final class PromiseTest {
         FaultWays y = Checks.of(most);
         due("round a ring of four", y.path(0, 1, NONE, 0), 28);
         due("the last", y.path(0, 1, 27, NONE), 6);
+        FaultWays z = Checks.of(CHAIN + "post f;post g;post h;link e f 1;link f g 1;link g h 1;");
+        dueRow("eight posts", k -> z.path(0, 7, 0, k), 0, 1, 2, 3, 4, 5, 6, 7);
+        dueRow("and back", k -> z.path(7, 0, 0, k), 7, 6, 5, 4, 3, 2, 1, 0);
     }
 
     private static void fresh() {
