@@ -1866,7 +1866,7 @@ public final class FaultWays {
 
         /** Each level has fewer kinds left than the one above it. */
         private int triesAmong(int left, int depth) {
-            if (Integer.bitCount(left) <= 1 || depth > MOST_KINDS || left >= triesFor.length) {
+            if (Integer.bitCount(left) <= 1 || depth > MOST_KINDS || left < 0 || left >= triesFor.length) {
                 return 0;
             }
             if (triesFor[left] != OPEN) {
