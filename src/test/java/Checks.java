@@ -1,9 +1,16 @@
+import java.util.function.IntUnaryOperator;
+
 /** Counts and prints answers that are not the ones due; feeds texts of any length. */
 final class Checks {
+    private static final int NONE = FaultWays.NONE;
+
     private int wrong = 0;
     private int done = 0;
     private String promise = "";
+    private FaultWays used = new FaultWays();
+    private int textsRead = 0;
 
+    /** What is tested next: a promise, or the document's own words. */
     void promise(String name) {
         promise = name;
     }
@@ -18,6 +25,45 @@ final class Checks {
 
     void due(String call, boolean got, boolean want) {
         due(call, got ? 1 : 0, want ? 1 : 0);
+    }
+
+    /** Answers numbered from 0 on; behind the last one, and below NONE, there is none. */
+    void dueRow(String call, IntUnaryOperator got, int... want) {
+        for (int i = 0; i < want.length; i++) {
+            due(call + " at " + i, got.applyAsInt(i), want[i]);
+        }
+        due(call + " behind its end", got.applyAsInt(want.length), NONE);
+        due(call + " at -2", got.applyAsInt(-2), NONE);
+        due(call + " at MIN", got.applyAsInt(Integer.MIN_VALUE), NONE);
+        due(call + " at MAX", got.applyAsInt(Integer.MAX_VALUE), NONE);
+    }
+
+    /** A list: how many at NONE, then each. */
+    void dueList(String call, IntUnaryOperator got, int... want) {
+        due(call + ": how many", got.applyAsInt(NONE), want.length);
+        dueRow(call, got, want);
+    }
+
+    /** A text read by a new object, and by one that has read others ahead: these must not count. */
+    void fault(String text, int fault, int place) {
+        if (textsRead % 4 == 0) {
+            // four texts of 2,000 bytes stay below the 512 calls that an object is promised for
+            used = new FaultWays();
+        }
+        textsRead++;
+        fault(new FaultWays(), text, fault, place);
+        fault(used, text, fault, place);
+    }
+
+    private void fault(FaultWays x, String text, int fault, int place) {
+        type(x, text);
+        due("read of " + text, x.read(), fault);
+        due("place in " + text, x.place(), place);
+        due("tape behind " + text, x.count(10), 0);
+    }
+
+    void sound(String text) {
+        fault(text, 0, NONE);
     }
 
     void end() {

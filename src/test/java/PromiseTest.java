@@ -4,20 +4,11 @@ final class PromiseTest {
     private static final int MIN = Integer.MIN_VALUE;
     private static final int MAX = Integer.MAX_VALUE;
 
-    /** Links 0 ab, 1 bc, 2 cd, 3 ac; ways 0 abc (links 3), 1 acd (links 12), 2 ab (links 1). */
-    private static final String NET = "post a;post b;post c;post d;link a b 2;link b c 5;link c d 1;link c a 3;"
-        + "way x a b c;way y a c d;way z a b;";
-    /** Four posts, all joined: 0 ab, 1 ac, 2 ad, 3 bc, 4 bd, 5 cd. */
-    private static final String FULL = "post a;post b;post c;post d;link a b 1;link a c 2;link a d 3;link b c 4;link b d 5;link c d 6;";
-    /** A row of posts a .. e: links 0 ab, 1 bc, 2 cd, 3 de. */
-    private static final String CHAIN = "post a;post b;post c;post d;post e;link a b 1;link b c 1;link c d 1;link d e 1;";
-
-    /** Twelve links: 0 ab, 1 ac, 2 ad, 3 ae, 4 af, 5 ag, 6 bc, 7 bd, 8 be, 9 bf, 10 bg, 11 gh. */
-    private static final String TWELVE = "post a;post b;post c;post d;post e;post f;post g;post h;link a b 9;link a c 9;link a d 9;link a e 9;"
-        + "link a f 9;link a g 9;link b c 9;link b d 9;link b e 9;link b f 9;link b g 9;link h g 9;";
-    /** A way for each of the twelve links alone. */
-    private static final String ALONE = TWELVE + "way k a b;way l a c;way m a d;way n a e;way o a f;way p a g;way q b c;way r b d;"
-        + "way s b e;way t b f;way u b g;way v h g;";
+    private static final String NET = Nets.NET;
+    private static final String FULL = Nets.FULL;
+    private static final String CHAIN = Nets.CHAIN;
+    private static final String TWELVE = Nets.TWELVE;
+    private static final String ALONE = Nets.ALONE;
 
     private static final Checks CHECKS = new Checks();
 
@@ -74,13 +65,7 @@ final class PromiseTest {
     }
 
     private static void dueRow(String call, java.util.function.IntUnaryOperator got, int... want) {
-        for (int i = 0; i < want.length; i++) {
-            due(call + " at " + i, got.applyAsInt(i), want[i]);
-        }
-        due(call + " behind its end", got.applyAsInt(want.length), NONE);
-        due(call + " at -2", got.applyAsInt(-2), NONE);
-        due(call + " at MIN", got.applyAsInt(MIN), NONE);
-        due(call + " at MAX", got.applyAsInt(MAX), NONE);
+        CHECKS.dueRow(call, got, want);
     }
 
     private static void newObject() {
@@ -139,11 +124,7 @@ final class PromiseTest {
     }
 
     private static void fault(String text, int fault, int place) {
-        FaultWays x = new FaultWays();
-        Checks.type(x, text);
-        due("read of " + text, x.read(), fault);
-        due("place in " + text, x.place(), place);
-        due("tape", x.count(10), 0);
+        CHECKS.fault(text, fault, place);
     }
 
     private static void readTokens() {
