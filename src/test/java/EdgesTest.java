@@ -47,6 +47,7 @@ final class EdgesTest {
         draws();
         guessWithoutWays();
         guessOfLean();
+        guessOfSure();
         path();
         mostPaths();
         fresh();
@@ -55,6 +56,10 @@ final class EdgesTest {
         count();
         countOfStates();
         noneAheadOfNothing();
+        nothingExplains();
+        onePostAlone();
+        oneLinkAlone();
+        oneWayAlone();
         CHECKS.end();
     }
 
@@ -438,6 +443,12 @@ final class EdgesTest {
         FaultWays z = Checks.of(Nets.CHAIN + "way p a b c;way q a b;");
         CHECKS.dueList("all seen", i -> z.choice(0, i), 0);
         CHECKS.dueList("and apart", i -> z.choice(1, i), 0, 1);
+        FaultWays u = Checks.of(Nets.CHAIN + "way p a b c;way q b c;");
+        CHECKS.dueList("all seen", i -> u.choice(0, i), 0);
+        CHECKS.dueList("and apart", i -> u.choice(1, i), 0, 1);
+        FaultWays v = Checks.of(Nets.ALONE.replace("way v h g;", "way v b g h;"));
+        CHECKS.dueList("u has what v has", i -> v.choice(0, i), 0, 1, 2, 3, 4, 5, 6, 7, 8, 9, 11);
+        CHECKS.dueList("u tells the last two of twelve apart", i -> v.choice(1, i), 0, 1, 2, 3, 4, 5, 6, 7, 8, 9, 10, 11);
         CHECKS.promise("CHOICE: in order as above");
         FaultWays y = Checks.of(Nets.CHAIN + "way p b c;way q a b c;way r a b;way s b c d;way t d c b a;");
         // all of 0 1 2: t alone; apart: 0 {q r t}, 1 {p q s t}, 2 {s t}: {p q} leaves 2 empty, {q s}: 0 {q}, 1 {q s}, 2 {s}
@@ -733,6 +744,18 @@ final class EdgesTest {
         }
     }
 
+    private static void guessOfSure() {
+        CHECKS.promise("28: 3 how many LINKS are SURE in all, added");
+        FaultWays x = Checks.of("post a;post b;post c;post d;link a b 1;link b c 9;link c d 5;way p a b;way q b c d;seed 0;");
+        // draws 0 8 8 | 7 8 7 | 5 1 2: {0 1}, {1}, {1 2}; 0 is sure the first time, then cleared; of 1 and 2 none is
+        int[][] want = {{1, 1, 1, 1}, {2, 2, 2, 1}, {2, 2, 2, 1}};
+        for (int n = 1; n <= 3; n++) {
+            for (int what = 0; what <= 3; what++) {
+                due("guess(" + n + ", " + what + ")", x.guess(n, what), want[n - 1][what]);
+            }
+        }
+    }
+
     // ---- promises 29 to 32
 
     private static void path() {
@@ -913,5 +936,111 @@ final class EdgesTest {
         due("a what that there is not", z.plan(2, NONE), NONE);
         due("another order is told: whatever i is", z.plan(0, 4), -2);
         due("whatever i is", z.plan(1, -2), -2);
+    }
+
+    // ---- where there is nothing, or one thing alone
+
+    private static void nothingExplains() {
+        CHECKS.promise("where nothing EXPLAINS");
+        // 0 ab 2, 1 bc 5, 2 cd 1, 3 ac 3: x has 0 1, y has 2 3, z has 0
+        FaultWays x = Checks.of(Nets.NET + "good x;bad z;eye a;eye d;seed 31;");
+        for (int link = 0; link < 4; link++) {
+            due("state of " + link, x.link(link, 4), -2);
+            due("weight of " + link, x.weight(link), 0);
+        }
+        CHECKS.dueRow("sets", x::sets, 0, 0, 0, 0, 0, 0, 0, 0, 0, 0, 0, 0, 0);
+        CHECKS.dueList("lean", x::lean);
+        CHECKS.dueRow("explains", x::explains, 0, 0, 0, 0, 0, 0, 0, 0, 0, 0, 0, 0, 0, 0, 0, 0);
+        due("likeliest", x.likeliest(), -2);
+        due("weight", x.weight(NONE), 0);
+        CHECKS.dueRow("cheapest: none costs 20, {0} 8 and 20", x::cheapest, 0, 20, 4, 1);
+        CHECKS.dueList("disbelieved", x::disbelieved, 0);
+        due("blamed", x.blamed(NONE), 2);
+        CHECKS.dueRow("blamed", x::blamed, 1, 0, 1);
+        due("x bad: {0} and more", x.after(0, false), 8);
+        due("z good: of 2 3 any", x.after(2, true), 4);
+        due("y good", x.after(1, true), 0);
+        due("y bad", x.after(1, false), 0);
+        due("next", x.next(), 1);
+        due("tries", x.tries(false), 0);
+        due("first", x.tries(true), -2);
+        due("fresh", x.fresh(0, 3), 0);
+        due("cleared", x.count(3), 3);
+        due("sure", x.count(4), 0);
+        due("doubtful", x.count(5), 0);
+        due("idle", x.count(6), 0);
+        due("first lean", x.count(13), -2);
+        CHECKS.promise("where nothing EXPLAINS, what does not hang on it");
+        FaultWays y = Checks.of(Nets.NET + "eye a;eye d;seed 31;");
+        for (int what = 0; what <= 3; what++) {
+            due("guess", x.guess(10, what), y.guess(10, what));
+        }
+        due("level", x.level(), y.level());
+        due("twin", x.twin(2), 3);
+        due("choice", x.choice(1, NONE), 3);
+        due("plan", x.plan(0, NONE), 2);
+        due("path", x.path(0, 3, NONE, 0), 2);
+        due("split", x.split(4), 2);
+    }
+
+    private static void onePostAlone() {
+        CHECKS.promise("one POST alone");
+        FaultWays x = Checks.of("post a;eye a;");
+        due("posts", x.count(0), 1);
+        due("eyes", x.count(14), 1);
+        due("paths of a plan", x.count(17), 0);
+        CHECKS.dueList("plan", i -> x.plan(0, i));
+        due("path", x.path(0, 0, NONE, 0), NONE);
+        due("path", x.path(0, 1, NONE, 0), NONE);
+        due("fresh", x.fresh(0, 0), NONE);
+        due("lay", x.lay(0, 0, 0), NONE);
+        due("lost", x.lost(0, 0), 1);
+        due("split", x.split(0), 1);
+        CHECKS.dueList("lean", x::lean, 0);
+    }
+
+    private static void oneLinkAlone() {
+        CHECKS.promise("one LINK alone");
+        FaultWays x = Checks.of("post a;post b;link b a 4;eye a;eye b;");
+        CHECKS.dueRow("link", what -> x.link(0, what), 0, 1, 4, 0, 3);
+        CHECKS.dueRow("explains", x::explains, 2, 1);
+        due("weight", x.weight(NONE), 10);
+        due("weight", x.weight(0), 4);
+        due("likeliest", x.likeliest(), 0);
+        CHECKS.dueRow("cheapest", x::cheapest, 0, 0, 0, 1);
+        due("seen", x.count(9), 0);
+        due("level", x.level(), 0);
+        CHECKS.dueRow("twin", x::twin, -2);
+        due("next", x.next(), -2);
+        due("tries", x.tries(false), 0);
+        due("path", x.path(0, 1, NONE, 0), 1);
+        due("fresh", x.fresh(1, 0), 0);
+        CHECKS.dueList("plan", i -> x.plan(0, i), 0);
+        CHECKS.dueList("plan", i -> x.plan(1, i), 0);
+        CHECKS.dueRow("split", x::split, 1, 2);
+        due("lay", x.lay(1, 0, 0), 0);
+        due("lay", x.lay(1, 0, 1), NONE);
+    }
+
+    private static void oneWayAlone() {
+        CHECKS.promise("one WAY alone");
+        FaultWays x = Checks.of(ONE);
+        due("next", x.next(), 0);
+        due("tries", x.tries(false), 1);
+        due("first", x.tries(true), 0);
+        due("level", x.level(), 1);
+        CHECKS.dueList("choice", i -> x.choice(0, i), 0);
+        CHECKS.dueList("choice", i -> x.choice(1, i), 0);
+        due("good", x.after(0, true), 1);
+        due("bad", x.after(0, false), 1);
+        x.tell(0, 2);
+        due("next", x.next(), -2);
+        due("tries", x.tries(false), 0);
+        due("first", x.tries(true), -2);
+        CHECKS.dueList("lean", x::lean, 1);
+        due("state", x.link(0, 4), 1);
+        due("blamed", x.blamed(NONE), 1);
+        CHECKS.dueRow("blamed", x::blamed, 0);
+        CHECKS.dueList("disbelieved", x::disbelieved);
     }
 }

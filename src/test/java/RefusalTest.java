@@ -22,6 +22,7 @@ final class RefusalTest {
             faults(scene.getKey(), scene.getValue());
             questions(scene.getKey(), scene.getValue());
             changes(scene.getKey(), scene.getValue());
+            undone(scene.getKey(), scene.getValue());
         }
         fullTape();
         fullWays();
@@ -199,6 +200,28 @@ final class RefusalTest {
     private static void changed(String scene, String call, Supplier<FaultWays> of, Consumer<FaultWays> it) {
         CHECKS.promise(scene + ", asked ahead of " + call);
         alike(Answers.of(Answers.then(of, it)), Answers.askedAhead(of, it), "");
+    }
+
+    /** Where forty things can be undone already, one less can be then. */
+    private static void undone(String scene, Supplier<FaultWays> of) {
+        for (int outcome = 0; outcome <= 2; outcome++) {
+            int told = outcome;
+            CHECKS.promise(scene + ": tell(1, " + told + ") is undone");
+            alike(Answers.of(of), Answers.of(Answers.then(of, x -> {
+                if (x.tell(1, told)) {
+                    CHECKS.due("undo", x.undo(), true);
+                }
+            })), "count\\(11\\).*");
+        }
+        for (int path = 0; path <= 1; path++) {
+            int laid = path;
+            CHECKS.promise(scene + ": lay(0, 3, " + laid + ") is undone");
+            alike(Answers.of(of), Answers.of(Answers.then(of, x -> {
+                if (x.lay(0, 3, laid) != NONE) {
+                    CHECKS.due("undo", x.undo(), true);
+                }
+            })), "count\\(11\\).*");
+        }
     }
 
     private static void fullTape() {

@@ -650,6 +650,8 @@ final class TextEdgesTest {
         fault(ROW + "way w b a b;", WRONG, ROW.length() + 10);
         CHECKS.promise("else one that no LINK of the whole text joins to the one right ahead");
         fault(ROW + "way w a c;", WRONG, ROW.length() + 8);
+        fault(ROW + "way w c a;", WRONG, ROW.length() + 8);
+        fault(ROW + "way w h a;", WRONG, ROW.length() + 8);
         fault(ROW + "way w a b d;", WRONG, ROW.length() + 10);
         fault(ROW + "way w h g f e d c b h;", WRONG, ROW.length() + 20);
         sound("way w a c;" + ROW + "link c a 1;");
@@ -669,6 +671,13 @@ final class TextEdgesTest {
         fault("way w a b;post a;post b;link a a 1;", WRONG, 8);
         CHECKS.promise("a LINK of what is no POST joins none");
         fault("way w a b;post a;post b;link a q 1;", WRONG, 8);
+        CHECKS.promise("a LINK of the text ahead is none");
+        FaultWays x = Checks.of(TWO + "way w a b;");
+        Checks.type(x, "post a;post b;way w a b;");
+        CHECKS.due("read", x.read(), WRONG);
+        CHECKS.due("place", x.place(), 22);
+        Checks.type(x, "post a;post b;link a b 1;way w b a;");
+        CHECKS.due("read", x.read(), 0);
         CHECKS.promise("a LINK told twice joins as the first one does");
         fault("way w a b;post a;post b;link a b 1;link a b 1;", TWICE, 42);
     }
