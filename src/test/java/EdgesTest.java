@@ -43,6 +43,7 @@ final class EdgesTest {
         planOfPaths();
         planOfEyes();
         planOfSeven();
+        planBehindAnother();
         guess();
         draws();
         guessWithoutWays();
@@ -614,6 +615,25 @@ final class EdgesTest {
         CHECKS.dueList("all", i -> y.plan(0, i), 2);
         // 1 and 2 are always as one; 0, 1, 3 by ab and be: 0 {ab}, 1 {be}, 3 {be}; by ad and be: 0 {ad}, 1 {ad be}, 3 {be}
         CHECKS.dueList("apart: by ab and ad 3 is empty, by ab and ae 1 and 3 are alike", i -> y.plan(1, i), 1, 4);
+    }
+
+    private static void planBehindAnother() {
+        CHECKS.promise("PLAN: of the text in place, nothing of the one ahead");
+        FaultWays x = Checks.of("post a;post b;post c;post d;post e;link a b 1;link a c 1;link a e 1;link a d 1;eye b;eye c;eye d;eye e;");
+        // bac 0 1 | bad 0 3 | bae 0 2 | cad 1 3 | cae 1 2 | dae 2 3
+        CHECKS.dueList("all", i -> x.plan(0, i), 0, 5);
+        CHECKS.dueList("apart", i -> x.plan(1, i), 0, 1, 2);
+        for (int n = 3; n >= 0; n--) {
+            Checks.type(x, between(n));
+            due("read", x.read(), 0);
+            due("paths", x.count(17), n);
+            due("plan", x.plan(0, NONE), n);
+            due("plan", x.plan(1, NONE), n);
+            for (int i = 0; i < n; i++) {
+                due("plan", x.plan(0, i), i);
+                due("plan", x.plan(1, i), i);
+            }
+        }
     }
 
     private static void planOfSeven() {

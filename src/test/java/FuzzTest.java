@@ -118,14 +118,17 @@ final class FuzzTest {
         }
     }
 
+    /** One text upon another: nothing of an earlier plan may stay. */
     private void plans(int posts, int links) {
         x = new FaultWays();
         y = new Oracle();
-        read(texts.sound(posts, links, 0));
-        CHECKS.due("count(17)", x.count(17), y.count(17));
-        for (int i = -2; i < 4; i++) {
-            CHECKS.due("plan(0, " + i + ")", x.plan(0, i), y.plan(0, i));
-            CHECKS.due("plan(1, " + i + ")", x.plan(1, i), y.plan(1, i));
+        for (int text = 0; text < 4; text++) {
+            read(texts.sound(posts, links, 0));
+            CHECKS.due("count(17)", x.count(17), y.count(17));
+            for (int i = -2; i < 4; i++) {
+                CHECKS.due("plan(0, " + i + ")", x.plan(0, i), y.plan(0, i));
+                CHECKS.due("plan(1, " + i + ")", x.plan(1, i), y.plan(1, i));
+            }
         }
     }
 

@@ -207,7 +207,7 @@ final class HandEdgesTest {
     }
 
     private static FaultWays behindAnother(String text) {
-        FaultWays x = Checks.of(Nets.ALONE + "eye a;eye b;eye c;eye h;bad k;price 7;seed 8;");
+        FaultWays x = Checks.of(Nets.ALONE + "eye a;eye b;eye c;eye h;bad k;good l;good m;good n;good o;good p;good u;price 7;seed 8;");
         x.plan(0, 0);
         x.path(0, 1, 0, 0);
         x.tell(1, 2);
