@@ -185,7 +185,7 @@ final class FuzzTest {
             case 5 -> CHECKS.due("lean(" + i + ")", x.lean(i), y.lean(i));
             case 6 -> CHECKS.due("explains(" + set + ")", x.explains(set), y.explains(set));
             case 7 -> CHECKS.due("likeliest()", x.likeliest(), y.likeliest());
-            case 8 -> CHECKS.due("weight(" + orNone(a) + ")", x.weight(a), y.weight(a));
+            case 8 -> CHECKS.due("weight(" + a + ")", x.weight(a), y.weight(a));
             case 9 -> CHECKS.due("weight(-1)", x.weight(-1), y.weight(-1));
             case 10 -> CHECKS.due("cheapest(" + small + ")", x.cheapest(small), y.cheapest(small));
             case 11 -> CHECKS.due("level()", x.level(), y.level());

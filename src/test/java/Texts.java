@@ -1,6 +1,8 @@
 import java.util.ArrayList;
+import java.util.HashSet;
 import java.util.List;
 import java.util.Random;
+import java.util.Set;
 
 /** Random texts: sound ones, and sound ones with something broken. */
 final class Texts {
@@ -74,9 +76,14 @@ final class Texts {
         }
         int count = random.nextInt(3) == 0 ? random.nextInt(mostWays + 1) : mostWays - random.nextInt(2);
         int ways = 0;
+        // short ways tell more links apart: without them a level above 1 is hardly ever met
+        int longest = random.nextInt(3) == 0 ? 2 : 7;
+        Set<Set<Integer>> failed = drawnLinks(joined);
+        List<Boolean> isBad = new ArrayList<>();
         for (int tries = 0; tries < 40 && ways < count && posts > 1; tries++) {
-            List<Integer> row = walk(joined, 2 + random.nextInt(7));
+            List<Integer> row = walk(joined, 2 + random.nextInt(longest));
             if (row.size() >= 2) {
+                isBad.add(hasOneOf(row, failed));
                 List<String> line = new ArrayList<>(List.of("way", "w" + (char) ('a' + ways)));
                 row.forEach(p -> line.add(NAMES[p]));
                 line.add(";");
@@ -85,11 +92,37 @@ final class Texts {
             }
         }
         int told = random.nextInt(2 * ways + 2);
+        int lies = random.nextInt(3) * 4;
         for (int i = 0; i < told && ways > 0; i++) {
-            lines.add(List.of(random.nextBoolean() ? "good" : "bad", "w" + (char) ('a' + random.nextInt(ways)), ";"));
+            int way = random.nextInt(ways);
+            boolean isLie = random.nextInt(16) < lies;
+            lines.add(List.of(isBad.get(way) == isLie ? "good" : "bad", "w" + (char) ('a' + way), ";"));
         }
         addRest(lines, posts);
         return mixed(lines);
+    }
+
+    /** Outcomes by these links agree with one another; lies among them make some that do not. */
+    private Set<Set<Integer>> drawnLinks(boolean[][] joined) {
+        Set<Set<Integer>> drawn = new HashSet<>();
+        int rarity = 2 + random.nextInt(4);
+        for (int a = 0; a < joined.length; a++) {
+            for (int b = 0; b < a; b++) {
+                if (joined[a][b] && random.nextInt(rarity) == 0) {
+                    drawn.add(Set.of(a, b));
+                }
+            }
+        }
+        return drawn;
+    }
+
+    private static boolean hasOneOf(List<Integer> row, Set<Set<Integer>> links) {
+        for (int i = 1; i < row.size(); i++) {
+            if (links.contains(Set.of(row.get(i - 1), row.get(i)))) {
+                return true;
+            }
+        }
+        return false;
     }
 
     private List<Integer> walk(boolean[][] joined, int length) {
