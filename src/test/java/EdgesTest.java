@@ -500,6 +500,9 @@ final class EdgesTest {
             Checks.of(Nets.CHAIN + "way p a b c d;way q a b c;way r b c;").next(), 2);
         // 1 good: of 0 2 3 free, p leaves 4 and 4 as r would
         due("of alike ones the least", Checks.of(Nets.CHAIN + "way p a b c;way q b c;way r a b;good q;").next(), 0);
+        // p has all four links: BAD leaves 15 sets, GOOD the empty one alone; r leaves 8 either way
+        due("a way of all links, bad, leaves most", Checks.of(Nets.CHAIN + "way p a b c d e;way r b c;").next(), 1);
+        due("a way of all links alone", Checks.of(Nets.CHAIN + "way p a b c d e;way r b c;good r;").next(), 0);
     }
 
     private static void tries() {
@@ -634,6 +637,14 @@ final class EdgesTest {
                 due("plan", x.plan(1, i), i);
             }
         }
+        // ahead: ab has 0, ac has 1, bc has both, as the third; now ab has 0 and cd has 1, and there is no third
+        FaultWays thirdAhead = Checks.of("post a;post b;post c;link a b 1;link a c 1;eye a;eye b;eye c;");
+        CHECKS.dueList("one has both", i -> thirdAhead.plan(0, i), 2);
+        Checks.type(thirdAhead, "post a;post b;post c;post d;link a b 1;link c d 1;eye a;eye b;eye c;eye d;");
+        due("read", thirdAhead.read(), 0);
+        due("two of them", thirdAhead.count(17), 2);
+        CHECKS.dueList("none has both", i -> thirdAhead.plan(0, i), 0, 1);
+        CHECKS.dueList("none has both, apart", i -> thirdAhead.plan(1, i), 0, 1);
     }
 
     private static void planOfSeven() {

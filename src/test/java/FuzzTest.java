@@ -33,6 +33,10 @@ final class FuzzTest {
                 CHECKS.promise("plans, seed " + (r * 1000000 + 11000 + i));
                 new FuzzTest(r * 1000000 + 11000 + i).plans(4 + i % 5, 3 + i % 10);
             }
+            for (int i = 0; i < 250; i++) {
+                CHECKS.promise("text upon text, seed " + (r * 1000000 + 13000 + i));
+                new FuzzTest(r * 1000000 + 13000 + i).textUponText();
+            }
         }
         CHECKS.end();
     }
@@ -128,6 +132,53 @@ final class FuzzTest {
             for (int i = -2; i < 4; i++) {
                 CHECKS.due("plan(0, " + i + ")", x.plan(0, i), y.plan(0, i));
                 CHECKS.due("plan(1, " + i + ")", x.plan(1, i), y.plan(1, i));
+            }
+        }
+    }
+
+    /** Small nets behind ones that are somewhat greater: rows hold what was there, and it must not count. */
+    private void textUponText() {
+        x = new FaultWays();
+        y = new Oracle();
+        for (int text = 0; text < 4; text++) {
+            boolean isGreater = text % 2 == 0;
+            int links = 1 + random.nextInt(3);
+            read(texts.sound(4, isGreater ? links + 1 : links, isGreater ? 5 : 1 + random.nextInt(3)));
+            wholes();
+            lists();
+        }
+    }
+
+    private void wholes() {
+        CHECKS.due("likeliest()", x.likeliest(), y.likeliest());
+        CHECKS.due("level()", x.level(), y.level());
+        CHECKS.due("next()", x.next(), y.next());
+        CHECKS.due("tries(false)", x.tries(false), y.tries(false));
+        CHECKS.due("tries(true)", x.tries(true), y.tries(true));
+        CHECKS.due("sets(12)", x.sets(12), y.sets(12));
+        for (int what = 0; what < 4; what++) {
+            CHECKS.due("cheapest(" + what + ")", x.cheapest(what), y.cheapest(what));
+            CHECKS.due("guess(6, " + what + ")", x.guess(6, what), y.guess(6, what));
+        }
+        for (int what = 3; what < 18; what++) {
+            CHECKS.due("count(" + what + ")", x.count(what), y.count(what));
+        }
+        for (int from = 0; from < 3; from++) {
+            CHECKS.due("fresh(" + from + ", 3)", x.fresh(from, 3), y.fresh(from, 3));
+            CHECKS.due("path(" + from + ", 3, -1, 0)", x.path(from, 3, -1, 0), y.path(from, 3, -1, 0));
+        }
+    }
+
+    private void lists() {
+        for (int i = -1; i < 5; i++) {
+            CHECKS.due("lean(" + i + ")", x.lean(i), y.lean(i));
+            CHECKS.due("weight(" + i + ")", x.weight(i), y.weight(i));
+            CHECKS.due("disbelieved(" + i + ")", x.disbelieved(i), y.disbelieved(i));
+            CHECKS.due("blamed(" + i + ")", x.blamed(i), y.blamed(i));
+            CHECKS.due("twin(" + i + ")", x.twin(i), y.twin(i));
+            for (int what = 0; what < 2; what++) {
+                CHECKS.due("choice(" + what + ", " + i + ")", x.choice(what, i), y.choice(what, i));
+                CHECKS.due("plan(" + what + ", " + i + ")", x.plan(what, i), y.plan(what, i));
             }
         }
     }
